@@ -19,11 +19,11 @@ public final class HandBook {
     private final Works works = new Works();
     private final Steps steps = new Steps();
     private final Hands hands = new Hands(works, steps);
-    private final Reader reader = new Reader(works, steps);
+    private final Tape tape = new Tape();
+    private final Reader reader = new Reader(tape, works, steps);
     private final Walks walks;
     private final Through plays;
     private final Cheapest harm;
-    private final Asks asks = new Asks(steps);
     private int finding;
     private int latestFault;
 
@@ -102,11 +102,11 @@ public final class HandBook {
         if (n < 1 || n > FEED) {
             return BAD;
         }
-        return reader.take(w, n) ? reader.size : FULL;
+        return tape.take(w, n) ? tape.size : FULL;
     }
 
     public int book() {
-        if (reader.readTape()) {
+        if (reader.readAll()) {
             return steps.n;
         }
         latestFault = reader.faultNumber;
@@ -148,14 +148,14 @@ public final class HandBook {
     }
 
     public int tick(int state) {
-        return isState(state) ? works.behindTick(state) : BAD;
+        return isState(state) ? works.behind[state] : BAD;
     }
 
     public int judge(int state, int what) {
         if (!isState(state) || !isBelow(what, 2)) {
             return BAD;
         }
-        return asNumber(what == 0 ? works.isBad(state) : works.isGood(state));
+        return asNumber(what == 0 ? works.bad[state] : works.good[state]);
     }
 
     public int days(int sheet, int i, int n) {
@@ -174,7 +174,7 @@ public final class HandBook {
             if (!isState(s.items[k])) {
                 return BAD;
             }
-            bad += asNumber(works.isBad(s.items[k]));
+            bad += asNumber(works.bad[s.items[k]]);
         }
         return fine(bad);
     }
@@ -268,11 +268,11 @@ public final class HandBook {
         if (!steps.has(step) || !isBelow(what, 2)) {
             return BAD;
         }
-        return asks.answer(step, what);
+        return steps.answer(step, what);
     }
 
     public int trace(int i) {
-        return isBelow(i, asks.traced) ? asks.trace[i] : NONE;
+        return isBelow(i, steps.traced) ? steps.trace[i] : NONE;
     }
 
     public int count(int what) {
@@ -283,7 +283,7 @@ public final class HandBook {
             case 3: return works.badLines.n;
             case 4: return works.goodLines.n;
             case 5: return Integer.bitCount(works.bars);
-            case 6: return reader.size;
+            case 6: return tape.size;
             default: return BAD;
         }
     }
@@ -362,25 +362,25 @@ public final class HandBook {
         int n;
         int drafted;
 
-        boolean isFull() {
-            return drafted >= LINES;
-        }
-
         void draftCond(int i, int cond) {
-            if (!isFull() && isBelow(i, LINE_CONDS)) {
+            if (drafted < LINES && isBelow(i, LINE_CONDS)) {
                 conds[drafted * LINE_CONDS + i] = cond;
                 sizes[drafted] = i + 1;
             }
         }
 
-        boolean lineHolds(int line, int state) {
-            int first = line * LINE_CONDS;
-            for (int i = first; i < first + sizes[line]; i++) {
-                if (!Works.holds(conds[i], state)) {
-                    return false;
+        /** How many lines have conds that all hold. */
+        int holding(int state) {
+            int lines = 0;
+            for (int line = 0; line < n; line++) {
+                int first = line * LINE_CONDS;
+                int i = first;
+                while (i < first + sizes[line] && Works.holds(conds[i], state)) {
+                    i++;
                 }
+                lines += asNumber(i == first + sizes[line]);
             }
-            return true;
+            return lines;
         }
     }
 
@@ -393,12 +393,17 @@ public final class HandBook {
         final int[] flowValves = new int[FLOWS];
         final int[] flowHeights = new int[FLOWS];
         final int[] flowRises = new int[FLOWS];
-        // By the set of open valves, since all plays tick far more often than flows come.
-        final int[] rises0 = new int[1 << VALVES];
-        final int[] rises1 = new int[1 << VALVES];
+        // Told of every state when a text is kept, as searches ask for them far more often.
+        final int[] behind = new int[STATES];
+        final boolean[] bad = new boolean[STATES];
+        final boolean[] good = new boolean[STATES];
         int flows;
         int flowsDrafted;
         int bars;
+
+        Works() {
+            tellStates();
+        }
 
         static int condOf(int sort, int of, int level) {
             return sort << 6 | of << 3 | level;
@@ -406,58 +411,23 @@ public final class HandBook {
 
         static boolean holds(int cond, int state) {
             int of = cond >> 3 & 7;
+            int height = state >> VALVES + 3 * of & TOP;
             switch (cond >> 6) {
-                case OPEN: return isOpen(state, of);
-                case SHUT: return !isOpen(state, of);
-                case ABOVE: return heightIn(state, of) > (cond & 7);
-                default: return heightIn(state, of) < (cond & 7);
+                case OPEN: return (state >> of & 1) == 1;
+                case SHUT: return (state >> of & 1) == 0;
+                case ABOVE: return height > (cond & 7);
+                default: return height < (cond & 7);
             }
         }
 
-        static boolean isOpen(int state, int valve) {
-            return (state >> valve & 1) == 1;
-        }
-
-        static int heightIn(int state, int height) {
-            return state >> 4 + 3 * height & TOP;
-        }
-
-        boolean isBad(int state) {
-            for (int i = 0; i < badLines.n; i++) {
-                if (badLines.lineHolds(i, state)) {
-                    return true;
-                }
+        /** The state behind a deed and its tick; a bar leaves the valve as it is. */
+        int behindDeed(int state, int valve, boolean opens) {
+            int bit = 1 << valve;
+            if (!opens) {
+                return behind[state & ~bit];
             }
-            return false;
-        }
-
-        boolean isGood(int state) {
-            for (int i = 0; i < goodLines.n; i++) {
-                if (!goodLines.lineHolds(i, state)) {
-                    return false;
-                }
-            }
-            return !isBad(state);
-        }
-
-        int opened(int state, int valve) {
-            int barring = bars >> 4 * valve & 15;
-            return (barring & state) != 0 ? state : state | 1 << valve;
-        }
-
-        int shut(int state, int valve) {
-            return state & ~(1 << valve);
-        }
-
-        int behindTick(int state) {
-            int open = state & 15;
-            int first = within(heightIn(state, 0) + rises0[open]);
-            int second = within(heightIn(state, 1) + rises1[open]);
-            return open | first << 4 | second << 7;
-        }
-
-        private static int within(int level) {
-            return Math.max(0, Math.min(TOP, level));
+            boolean barred = (bars >> 4 * valve & 15 & state) != 0;
+            return behind[barred ? state : state | bit];
         }
 
         void draftFlow(int valve, int height, int rise) {
@@ -479,36 +449,62 @@ public final class HandBook {
             flows = flowsDrafted;
             badLines.n = badLines.drafted;
             goodLines.n = goodLines.drafted;
+            tellStates();
+        }
+
+        private void tellStates() {
             for (int open = 0; open < 1 << VALVES; open++) {
-                rises0[open] = riseOf(open, 0);
-                rises1[open] = riseOf(open, 1);
+                int rise0 = riseOf(open, 0);
+                int rise1 = riseOf(open, 1);
+                for (int levels = 0; levels < STATES >> VALVES; levels++) {
+                    int state = levels << VALVES | open;
+                    int level0 = within((levels & TOP) + rise0);
+                    int level1 = within((levels >> 3) + rise1);
+                    behind[state] = open | level0 << 4 | level1 << 7;
+                    bad[state] = badLines.holding(state) > 0;
+                    good[state] = !bad[state] && goodLines.holding(state) == goodLines.n;
+                }
             }
         }
 
         private int riseOf(int open, int height) {
             int rise = 0;
             for (int i = 0; i < flows; i++) {
-                if (flowHeights[i] == height && isOpen(open, flowValves[i])) {
+                if (flowHeights[i] == height && (open >> flowValves[i] & 1) == 1) {
                     rise += flowRises[i];
                 }
             }
             return rise;
         }
+
+        private static int within(int level) {
+            return Math.max(0, Math.min(TOP, level));
+        }
     }
 
-    /** The steps of the book. A text that is being read writes behind n, as with lines. */
+    /**
+     * The steps of the book, and the asks of them by numbered bodies. A text that is being read
+     * writes behind n, as with lines.
+     */
     private static final class Steps {
         static final int OPEN = 0, SHUT = 1, WAIT = 2, IF = 3, GO = 4, END = 5;
         static final int STEP = 0, DEED = 1, OPENS = 2, WAITS = 3, TURN = 4, LAST = 5, KINDS = 6;
+        static final int TRACE = 16, DEEPEST = 8;
 
         final int[] acts = new int[STEPS];
         final int[] targets = new int[STEPS];
         final int[] conds = new int[STEPS];
+        final int[] trace = new int[TRACE];
         int n;
         int drafted;
+        int traced;
 
         boolean has(int step) {
-            return isBelow(step, n);
+            return step >= 0 && step < n;
+        }
+
+        boolean isDeed(int step) {
+            return acts[step] == OPEN || acts[step] == SHUT;
         }
 
         void draftStep(int act, int target, int cond) {
@@ -549,76 +545,204 @@ public final class HandBook {
             }
             return going;
         }
+
+        int answer(int step, int what) {
+            traced = 0;
+            return begin(what == 0 ? sizeBody(step) : markBody(step), step, 0);
+        }
+
+        private int sizeBody(int step) {
+            switch (kindOf(step)) {
+                case DEED: return 11;
+                case OPENS: return 12;
+                case WAITS: return 13;
+                case TURN: return 14;
+                case LAST: return 15;
+                default: return 10;
+            }
+        }
+
+        private int markBody(int step) {
+            switch (kindOf(step)) {
+                case DEED:
+                case OPENS: return 21;
+                case WAITS: return 22;
+                case LAST: return 23;
+                default: return 20;
+            }
+        }
+
+        private int begin(int body, int step, int depth) {
+            if (depth >= DEEPEST) {
+                return 0;
+            }
+            leave(body);
+            int deeper = depth + 1;
+            switch (body) {
+                case 10: return goingTo(step);
+                case 11: return begin(10, step, deeper) + begin(markBody(step), step, deeper);
+                case 12: return 2 * begin(11, step, deeper);
+                case 13: return begin(10, step, deeper) + 50;
+                case 14: return begin(10, step, deeper) - begin(markBody(step), step, deeper);
+                case 15: return 2 * begin(14, step, deeper);
+                case 21: return begin(20, step, deeper) + 100 * targets[step];
+                case 22: return begin(20, step, deeper) + begin(sizeBody(step), step, deeper);
+                case 23: return begin(20, step, deeper) + n;
+                default: return step;
+            }
+        }
+
+        private void leave(int body) {
+            if (traced < TRACE) {
+                trace[traced] = body;
+                traced++;
+            }
+        }
     }
 
-    /** Reads the tape into drafts, which are kept only when the whole text is without fault. */
-    private static final class Reader {
-        static final int MISPLACED = 1, NOT_AS_TOLD = 2, NO_ROOM = 3;
-        static final int END = 0, NAME = 1, NUMBER = 2, SIGN = 3, NO_TOKEN = 4;
+    /** The bytes fed, and the tokens that they make. */
+    private static final class Tape {
+        // A name's code is its number in this row of words, each of which ends with a blank.
+        static final String WORDS = "flow bad good step and up down open shut above below wait if go end ";
+        static final int FLOW = 0, BAD_LINE = 1, GOOD_LINE = 2, STEP = 3, AND = 4, UP = 5, DOWN = 6;
+        static final int OPEN = 7, SHUT = 8, ABOVE = 9, BELOW = 10, WAIT = 11, IF = 12, GO = 13, END = 14;
+        static final int SIGN = 20, TAPE_END = 21, NO_TOKEN = 22;
+        // A number's code is this and the number.
+        static final int NUMBER = 100;
         static final int FIGURES = 2;
 
-        final Works works;
-        final Steps steps;
-        final int[] tape = new int[TAPE];
+        final int[] bytes = new int[TAPE];
+        final int[] starts = new int[TAPE + 1];
+        final int[] codes = new int[TAPE + 1];
         int size;
-        int faultNumber;
-        int faultPlace;
-        private int at;
-        private int from;
-        private int sort;
-        private int value;
-
-        Reader(Works works, Steps steps) {
-            this.works = works;
-            this.steps = steps;
-        }
 
         boolean take(long w, int n) {
             if (n > TAPE - size) {
                 return false;
             }
             for (int i = n - 1; i >= 0; i--) {
-                tape[size] = (int) (w >> 8 * i) & 255;
+                bytes[size] = (int) (w >> 8 * i) & 255;
                 size++;
             }
             return true;
         }
 
-        boolean readTape() {
+        void split() {
+            int n = 0;
+            int next = 0;
+            for (int i = 0; i < size; i = next) {
+                next = i + 1;
+                if (bytes[i] != 32 && bytes[i] != 10) {
+                    next = endOfToken(i);
+                    starts[n] = i;
+                    codes[n] = codeOf(i, next);
+                    n++;
+                }
+            }
+            starts[n] = size;
+            codes[n] = TAPE_END;
+        }
+
+        private int endOfToken(int start) {
+            boolean name = isLetter(bytes[start]);
+            boolean number = isFigure(bytes[start]);
+            int i = start + 1;
+            while (i < size && (name && isLetter(bytes[i]) || number && isFigure(bytes[i]))) {
+                i++;
+            }
+            return i;
+        }
+
+        private int codeOf(int start, int end) {
+            if (isLetter(bytes[start])) {
+                return wordOf(start, end);
+            }
+            if (!isFigure(bytes[start])) {
+                return bytes[start] == ';' ? SIGN : NO_TOKEN;
+            }
+            if (end - start > FIGURES) {
+                return NO_TOKEN;
+            }
+            int value = 0;
+            for (int i = start; i < end; i++) {
+                value = 10 * value + bytes[i] - '0';
+            }
+            return NUMBER + value;
+        }
+
+        private int wordOf(int start, int end) {
+            int word = 0;
+            int i = start;
+            boolean same = true;
+            for (int k = 0; k < WORDS.length(); k++) {
+                if (WORDS.charAt(k) != ' ') {
+                    same = same && i < end && bytes[i] == WORDS.charAt(k);
+                    i++;
+                } else if (same && i == end) {
+                    return word;
+                } else {
+                    word++;
+                    i = start;
+                    same = true;
+                }
+            }
+            return NO_TOKEN;
+        }
+
+        private static boolean isLetter(int b) {
+            return b >= 'a' && b <= 'z';
+        }
+
+        private static boolean isFigure(int b) {
+            return b >= '0' && b <= '9';
+        }
+    }
+
+    /** Reads the tape into drafts, which are kept only when the whole text is without fault. */
+    private static final class Reader {
+        static final int MISPLACED = 1, NOT_AS_TOLD = 2, NO_ROOM = 3;
+
+        final Tape tape;
+        final Works works;
+        final Steps steps;
+        int faultNumber;
+        int faultPlace;
+        private int at;
+        private int code;
+
+        Reader(Tape tape, Works works, Steps steps) {
+            this.tape = tape;
+            this.works = works;
+            this.steps = steps;
+        }
+
+        boolean readAll() {
+            tape.split();
             works.beginDraft();
             steps.drafted = steps.n;
-            boolean whole = readText();
+            at = 0;
+            code = tape.codes[0];
+            boolean whole = true;
+            // A line has a byte at least, so there are no more lines than bytes.
+            for (int i = 0; i < TAPE && whole && code != Tape.TAPE_END; i++) {
+                whole = readLine();
+            }
             if (whole) {
                 works.keepDraft();
                 steps.n = steps.drafted;
             }
-            size = 0;
+            tape.size = 0;
             return whole;
         }
 
-        private boolean readText() {
-            at = 0;
-            nextToken();
-            // A line has a byte at least, so there are no more lines than bytes.
-            for (int i = 0; i < TAPE && sort != END; i++) {
-                if (!readLine()) {
-                    return false;
-                }
-            }
-            return true;
-        }
-
         private boolean readLine() {
-            if (says("flow")) {
-                return readFlow();
+            switch (code) {
+                case Tape.FLOW: return readFlow();
+                case Tape.BAD_LINE: return readConds(works.badLines);
+                case Tape.GOOD_LINE: return readConds(works.goodLines);
+                case Tape.STEP: return readStep();
+                default: return refuse(MISPLACED);
             }
-            if (says("bad")) {
-                return readConds(works.badLines);
-            }
-            if (says("good")) {
-                return readConds(works.goodLines);
-            }
-            return says("step") ? readStep() : refuse(MISPLACED);
         }
 
         private boolean readFlow() {
@@ -627,37 +751,36 @@ public final class HandBook {
             }
             nextToken();
             int valve = readNumber(VALVES);
-            int height = valve < 0 ? NONE : readNumber(HEIGHTS);
-            if (height < 0) {
+            int height = valve == NONE ? NONE : readNumber(HEIGHTS);
+            if (height == NONE) {
                 return false;
             }
-            boolean up = says("up");
-            if (!up && !says("down")) {
+            if (code != Tape.UP && code != Tape.DOWN) {
                 return refuse(MISPLACED);
             }
+            works.draftFlow(valve, height, code == Tape.UP ? 1 : -1);
             nextToken();
-            works.draftFlow(valve, height, up ? 1 : -1);
             return readLineEnd();
         }
 
         private boolean readConds(Lines lines) {
-            if (lines.isFull()) {
+            if (lines.drafted >= LINES) {
                 return refuse(NO_ROOM);
             }
             nextToken();
             for (int i = 0; i < LINE_CONDS; i++) {
                 int cond = readCond();
-                if (cond < 0) {
+                if (cond == NONE) {
                     return false;
                 }
                 lines.draftCond(i, cond);
-                if (!says("and")) {
+                if (code != Tape.AND) {
                     lines.drafted++;
                     return readLineEnd();
                 }
                 nextToken();
             }
-            return refuse(condSort() < 0 ? MISPLACED : NO_ROOM);
+            return refuse(condSaid() == NONE ? MISPLACED : NO_ROOM);
         }
 
         private boolean readStep() {
@@ -666,16 +789,13 @@ public final class HandBook {
             }
             nextToken();
             int act = actSaid();
-            if (act < 0) {
+            if (act == NONE) {
                 return refuse(MISPLACED);
             }
             nextToken();
             int cond = act == Steps.WAIT || act == Steps.IF ? readCond() : 0;
-            if (cond < 0) {
-                return false;
-            }
-            int target = readTarget(act);
-            if (target < 0) {
+            int target = cond == NONE ? NONE : readTarget(act);
+            if (target == NONE) {
                 return false;
             }
             steps.draftStep(act, target, cond);
@@ -693,69 +813,55 @@ public final class HandBook {
         }
 
         private int readCond() {
-            int of = condSort();
-            if (of < 0) {
+            int sort = condSaid();
+            if (sort == NONE) {
                 refuse(MISPLACED);
                 return NONE;
             }
             nextToken();
-            boolean ofValve = of == Works.OPEN || of == Works.SHUT;
-            int what = readNumber(ofValve ? VALVES : HEIGHTS);
-            if (what < 0) {
+            boolean ofValve = sort == Works.OPEN || sort == Works.SHUT;
+            int of = readNumber(ofValve ? VALVES : HEIGHTS);
+            if (of == NONE) {
                 return NONE;
             }
             int level = ofValve ? 0 : readNumber(TOP + 1);
-            return level < 0 ? NONE : Works.condOf(of, what, level);
+            return level == NONE ? NONE : Works.condOf(sort, of, level);
         }
 
-        private int condSort() {
-            if (says("open")) {
-                return Works.OPEN;
+        private int condSaid() {
+            switch (code) {
+                case Tape.OPEN: return Works.OPEN;
+                case Tape.SHUT: return Works.SHUT;
+                case Tape.ABOVE: return Works.ABOVE;
+                case Tape.BELOW: return Works.BELOW;
+                default: return NONE;
             }
-            if (says("shut")) {
-                return Works.SHUT;
-            }
-            if (says("above")) {
-                return Works.ABOVE;
-            }
-            return says("below") ? Works.BELOW : NONE;
         }
 
         private int actSaid() {
-            if (says("open")) {
-                return Steps.OPEN;
+            switch (code) {
+                case Tape.OPEN: return Steps.OPEN;
+                case Tape.SHUT: return Steps.SHUT;
+                case Tape.WAIT: return Steps.WAIT;
+                case Tape.IF: return Steps.IF;
+                case Tape.GO: return Steps.GO;
+                case Tape.END: return Steps.END;
+                default: return NONE;
             }
-            if (says("shut")) {
-                return Steps.SHUT;
-            }
-            if (says("wait")) {
-                return Steps.WAIT;
-            }
-            if (says("if")) {
-                return Steps.IF;
-            }
-            if (says("go")) {
-                return Steps.GO;
-            }
-            return says("end") ? Steps.END : NONE;
         }
 
         private int readNumber(int bound) {
-            if (sort != NUMBER) {
-                refuse(MISPLACED);
+            int value = code - Tape.NUMBER;
+            if (value < 0 || value >= bound) {
+                refuse(value < 0 ? MISPLACED : NOT_AS_TOLD);
                 return NONE;
             }
-            if (value >= bound) {
-                refuse(NOT_AS_TOLD);
-                return NONE;
-            }
-            int read = value;
             nextToken();
-            return read;
+            return value;
         }
 
         private boolean readLineEnd() {
-            if (sort != SIGN) {
+            if (code != Tape.SIGN) {
                 return refuse(MISPLACED);
             }
             nextToken();
@@ -764,66 +870,16 @@ public final class HandBook {
 
         private boolean refuse(int fault) {
             faultNumber = fault;
-            faultPlace = from;
+            faultPlace = tape.starts[at];
             return false;
         }
 
+        // The tape's end is the last token, and nothing reads on behind it.
         private void nextToken() {
-            while (at < size && isBlank(tape[at])) {
+            if (code != Tape.TAPE_END && at < TAPE) {
                 at++;
+                code = tape.codes[at];
             }
-            from = at;
-            if (at >= size) {
-                sort = END;
-            } else if (isLetter(tape[at])) {
-                readName();
-            } else if (isFigure(tape[at])) {
-                readFigures();
-            } else {
-                sort = tape[at] == ';' ? SIGN : NO_TOKEN;
-                at++;
-            }
-        }
-
-        private void readName() {
-            sort = NAME;
-            while (at < size && isLetter(tape[at])) {
-                at++;
-            }
-        }
-
-        private void readFigures() {
-            value = 0;
-            while (at < size && isFigure(tape[at])) {
-                value = 10 * value + tape[at] - '0';
-                at++;
-            }
-            // The value of more figures may have wrapped around, but is never looked at.
-            sort = at - from <= FIGURES ? NUMBER : NO_TOKEN;
-        }
-
-        private boolean says(String word) {
-            if (sort != NAME || at - from != word.length()) {
-                return false;
-            }
-            for (int i = from; i < at; i++) {
-                if (tape[i] != word.charAt(i - from)) {
-                    return false;
-                }
-            }
-            return true;
-        }
-
-        private static boolean isBlank(int b) {
-            return b == 32 || b == 10;
-        }
-
-        private static boolean isLetter(int b) {
-            return b >= 'a' && b <= 'z';
-        }
-
-        private static boolean isFigure(int b) {
-            return b >= '0' && b <= '9';
         }
     }
 
@@ -841,103 +897,70 @@ public final class HandBook {
             this.steps = steps;
         }
 
-        static int stepOf(int place) {
-            return place / STATES;
-        }
-
-        static int stateOf(int place) {
-            return place % STATES;
-        }
-
         int goingOn(int place) {
-            int step = stepOf(place);
+            int step = place / STATES;
+            int state = place % STATES;
             if (!steps.has(step)) {
                 return NONE;
             }
-            int state = stateOf(place);
+            int next = place + STATES;
+            int target = steps.targets[step];
+            boolean holds = Works.holds(steps.conds[step], state);
             switch (steps.acts[step]) {
-                case Steps.OPEN:
-                case Steps.SHUT: return deedDone(step, state, steps.targets[step]);
-                case Steps.WAIT: return holdsAt(step, state) ? place + STATES : waited(step, state);
-                case Steps.IF: return holdsAt(step, state) ? told(step, state) : place + STATES;
-                case Steps.GO: return told(step, state);
+                case Steps.OPEN: return next - state + works.behindDeed(state, target, true);
+                case Steps.SHUT: return next - state + works.behindDeed(state, target, false);
+                case Steps.WAIT: return holds ? next : place - state + works.behind[state];
+                case Steps.IF: return holds ? target * STATES + state : next;
+                case Steps.GO: return target * STATES + state;
                 default: return NONE;
             }
         }
 
         boolean ticksGoingOn(int place) {
-            int step = stepOf(place);
+            int step = place / STATES;
             if (!steps.has(step)) {
                 return false;
             }
-            switch (steps.acts[step]) {
-                case Steps.OPEN:
-                case Steps.SHUT: return true;
-                case Steps.WAIT: return !holdsAt(step, stateOf(place));
-                default: return false;
-            }
+            boolean waits = steps.acts[step] == Steps.WAIT;
+            return steps.isDeed(step) || waits && !Works.holds(steps.conds[step], place % STATES);
         }
 
         int slipping(int place, int slip) {
-            int step = stepOf(place);
+            int step = place / STATES;
+            int state = place % STATES;
             if (!steps.has(step)) {
                 return NONE;
             }
-            int act = steps.acts[step];
-            if (act != Steps.OPEN && act != Steps.SHUT && act != Steps.WAIT) {
+            boolean deed = steps.isDeed(step);
+            boolean waits = steps.acts[step] == Steps.WAIT;
+            if (!deed && !waits) {
                 return NONE;
             }
+            int next = place + STATES;
+            int like = deed ? likes[steps.targets[step]] : NONE;
+            boolean opens = steps.acts[step] == Steps.OPEN;
+            boolean early = waits && !Works.holds(steps.conds[step], state);
             switch (slip) {
-                case SKIPPED: return place + STATES;
-                case ALIKE: return act == Steps.WAIT ? NONE : alike(step, stateOf(place));
-                case SHORT: return act == Steps.WAIT ? tooShort(step, stateOf(place)) : NONE;
+                case SKIPPED: return next;
+                case ALIKE: return like == NONE ? NONE : next - state + works.behindDeed(state, like, opens);
+                case SHORT: return early ? next - state + works.behind[state] : NONE;
                 default: return step == 0 ? NONE : place - STATES;
             }
         }
 
-        boolean ticksSlipping(int slip) {
+        static boolean ticksSlipping(int slip) {
             return slip == ALIKE || slip == SHORT;
-        }
-
-        private int alike(int step, int state) {
-            int valve = steps.targets[step];
-            if (!isBelow(valve, VALVES) || likes[valve] == NONE) {
-                return NONE;
-            }
-            return deedDone(step, state, likes[valve]);
-        }
-
-        private int tooShort(int step, int state) {
-            return holdsAt(step, state) ? NONE : waited(step + 1, state);
-        }
-
-        private int deedDone(int step, int state, int valve) {
-            boolean opens = steps.acts[step] == Steps.OPEN;
-            int done = opens ? works.opened(state, valve) : works.shut(state, valve);
-            return waited(step + 1, done);
-        }
-
-        private int waited(int step, int state) {
-            return step * STATES + works.behindTick(state);
-        }
-
-        private int told(int step, int state) {
-            return steps.targets[step] * STATES + state;
-        }
-
-        private boolean holdsAt(int step, int state) {
-            return Works.holds(steps.conds[step], state);
         }
     }
 
-    /** Rows over all places, made once and shared by all searches: of these only one goes at a time. */
+    /** Rows over all places, made once and shared by all searches, of which one goes at a time. */
     private static final class Rows {
-        static final int LEVEL_BITS = 3;
+        static final int LEVELS = MOST_SLIPS + 1;
 
         final int[] first = new int[PLACES];
         final int[] second = new int[PLACES];
         final int[] third = new int[PLACES];
-        // Each entry bears the round it was made in, so that no search has to clear the row.
+        // Each mark bears the round that it was made in, so that no search has to clear the row.
         private final int[] marks = new int[PLACES];
         int round;
 
@@ -945,11 +968,11 @@ public final class HandBook {
             round++;
         }
 
-        /** Whether the place had not yet been entered on that level in this round. */
+        /** Enters a place on a level; false: it had been there in this round. */
         boolean enter(int place, int level) {
-            int levels = marks[place] >> LEVEL_BITS == round ? marks[place] & 7 : 0;
+            int levels = marks[place] >> LEVELS == round ? marks[place] & 7 : 0;
             int bit = 1 << level;
-            marks[place] = round << LEVEL_BITS | levels | bit;
+            marks[place] = round << LEVELS | levels | bit;
             return (levels & bit) == 0;
         }
     }
@@ -957,9 +980,9 @@ public final class HandBook {
     /** Single runs, and the way back to a good state. */
     private static final class Walks {
         static final int TICKS_SHOWN = 50;
-        // Without a tick the state stays: every step once ahead of the slip and once behind it.
-        static final int STILL = 2 * STEPS + 8;
-        static final int ALL_HEIGHTS = 63 << VALVES;
+        // Without a tick the state stays, so this is each step once ahead of the slip and once behind.
+        static final int STILL = 2 * (STEPS + 1) + 1;
+        static final int ALL_HEIGHTS = STATES - (1 << VALVES);
 
         final Hands hands;
         final Works works;
@@ -970,8 +993,6 @@ public final class HandBook {
         int deeds;
         int firstDeed;
         private boolean slipAhead;
-        private int slipStep;
-        private int slipMade;
 
         Walks(Hands hands, Rows rows) {
             this.hands = hands;
@@ -986,26 +1007,22 @@ public final class HandBook {
             int ticked = 0;
             int place = state;
             for (int i = 0; i < PLACES && place != NONE && rows.enter(place, 0); i++) {
-                int now = Hands.stateOf(place);
-                harmed = harmed || works.isBad(now);
+                int now = place % STATES;
+                harmed = harmed || works.bad[now];
                 ticked += asNumber(hands.ticksGoingOn(place));
                 place = hands.goingOn(place);
-                if (place == NONE) {
-                    endState = now;
-                }
+                endState = place == NONE ? now : NONE;
             }
             ticks = endState == NONE ? NONE : ticked;
         }
 
         int firstUnlike(int state, int step, int slip) {
             slipAhead = true;
-            slipStep = step;
-            slipMade = slip;
             int plain = state;
             int other = state;
             for (int t = 1; t <= TICKS_SHOWN; t++) {
-                plain = toNextTick(plain, false);
-                other = toNextTick(other, true);
+                plain = toNextTick(plain, NONE, slip);
+                other = toNextTick(other, step, slip);
                 if (((plain ^ other) & ALL_HEIGHTS) != 0) {
                     return t;
                 }
@@ -1013,25 +1030,23 @@ public final class HandBook {
             return NONE;
         }
 
-        private int toNextTick(int from, boolean slips) {
+        /** The place behind the next tick, or, if none comes, one with the state that stays. */
+        private int toNextTick(int from, int slipStep, int slip) {
             int place = from;
             for (int i = 0; i < STILL; i++) {
-                boolean here = slips && slipAhead && Hands.stepOf(place) == slipStep;
-                int next = here ? hands.slipping(place, slipMade) : NONE;
-                boolean ticked = hands.ticksSlipping(slipMade);
-                if (next != NONE) {
-                    slipAhead = false;
-                } else {
+                boolean here = slipAhead && place / STATES == slipStep;
+                int next = here ? hands.slipping(place, slip) : NONE;
+                boolean ticked = Hands.ticksSlipping(slip);
+                if (next == NONE) {
                     ticked = hands.ticksGoingOn(place);
                     next = hands.goingOn(place);
+                } else {
+                    slipAhead = false;
                 }
-                if (next == NONE) {
-                    return place;
+                if (next == NONE || ticked) {
+                    return next == NONE ? place : next;
                 }
                 place = next;
-                if (ticked) {
-                    return place;
-                }
             }
             return place;
         }
@@ -1039,10 +1054,10 @@ public final class HandBook {
         void seekGood(int state) {
             deeds = NONE;
             firstDeed = NONE;
-            if (works.isBad(state)) {
+            if (works.bad[state]) {
                 return;
             }
-            if (works.isGood(state)) {
+            if (works.good[state]) {
                 deeds = 0;
                 return;
             }
@@ -1056,34 +1071,30 @@ public final class HandBook {
             }
         }
 
-        // States wait in order of their first deed, so the first good one has the least.
+        // States wait in the order of their first deeds, so the first good one has the least.
         private int doDeeds(int state, int waiting) {
             int n = waiting;
-            for (int deed = 0; deed <= VALVES; deed++) {
-                int next = deedDone(state, deed);
-                if (works.isBad(next) || !rows.enter(next, 0) || n >= STATES) {
-                    continue;
-                }
-                rows.first[n] = next;
-                n++;
-                rows.second[next] = rows.second[state] + 1;
-                rows.third[next] = rows.second[state] == 0 ? deed : rows.third[state];
-                if (works.isGood(next)) {
-                    deeds = rows.second[next];
-                    firstDeed = rows.third[next];
-                    return n;
+            int done = rows.second[state] + 1;
+            for (int deed = 0; deed <= VALVES && deeds == NONE; deed++) {
+                int next = behindDeed(state, deed);
+                if (!works.bad[next] && rows.enter(next, 0) && n < STATES) {
+                    rows.first[n] = next;
+                    n++;
+                    rows.second[next] = done;
+                    rows.third[next] = done == 1 ? deed : rows.third[state];
+                    deeds = works.good[next] ? done : NONE;
+                    firstDeed = works.good[next] ? rows.third[next] : NONE;
                 }
             }
             return n;
         }
 
-        private int deedDone(int state, int deed) {
+        private int behindDeed(int state, int deed) {
             if (deed == 0) {
-                return works.behindTick(state);
+                return works.behind[state];
             }
             int valve = deed - 1;
-            boolean open = Works.isOpen(state, valve);
-            return works.behindTick(open ? works.shut(state, valve) : works.opened(state, valve));
+            return works.behindDeed(state, valve, (state >> valve & 1) == 0);
         }
     }
 
@@ -1117,13 +1128,12 @@ public final class HandBook {
             int[] now = rows.first;
             int[] then = rows.second;
             int n = put(now, 0, state, 0);
-            for (int level = 0; level <= slips; level++) {
+            for (int level = 0; level <= slips && !(harmed && tillHarm); level++) {
                 n = goOnFromAll(now, n, level);
-                if (harmed && tillHarm) {
-                    return;
-                }
                 places += n;
-                countHanging(now, n);
+                for (int i = 0; i < n && !tillHarm; i++) {
+                    hanging += asNumber(fateFrom(now[i]) == HANGS);
+                }
                 n = level < slips ? slipFromAll(now, n, then, level + 1) : 0;
                 int[] left = now;
                 now = then;
@@ -1135,7 +1145,7 @@ public final class HandBook {
             if (place == NONE || n >= PLACES || !rows.enter(place, level)) {
                 return n;
             }
-            harmed = harmed || works.isBad(Hands.stateOf(place));
+            harmed = harmed || works.bad[place % STATES];
             row[n] = place;
             return n + 1;
         }
@@ -1145,7 +1155,7 @@ public final class HandBook {
             for (int i = 0; i < n && i < PLACES; i++) {
                 int next = hands.goingOn(row[i]);
                 if (next == NONE) {
-                    endIn(Hands.stateOf(row[i]));
+                    endIn(row[i] % STATES);
                 }
                 n = put(row, n, next, level);
             }
@@ -1163,17 +1173,10 @@ public final class HandBook {
         }
 
         private void endIn(int state) {
-            if (endRounds[state] == rows.round) {
-                return;
-            }
-            endRounds[state] = rows.round;
-            ends++;
-            goodEnds += asNumber(works.isGood(state));
-        }
-
-        private void countHanging(int[] row, int n) {
-            for (int i = 0; i < n; i++) {
-                hanging += asNumber(fateFrom(row[i]) == HANGS);
+            if (endRounds[state] != rows.round) {
+                endRounds[state] = rows.round;
+                ends++;
+                goodEnds += asNumber(works.good[state]);
             }
         }
 
@@ -1190,6 +1193,7 @@ public final class HandBook {
                     fate = at == NONE ? ENDS : UNKNOWN;
                 }
             }
+            // All that was come to on the way shares what it led to.
             at = place;
             for (int i = 0; i <= PLACES && at != NONE && fateAt(at) == ON_WAY; i++) {
                 setFate(at, fate);
@@ -1199,36 +1203,28 @@ public final class HandBook {
         }
 
         private int fateAt(int place) {
-            int told = rows.third[place];
-            return told >> 2 == rows.round ? told & 3 : UNKNOWN;
+            int fate = rows.third[place];
+            return fate >> 2 == rows.round ? fate & 3 : UNKNOWN;
         }
 
         private void setFate(int place, int fate) {
             rows.third[place] = rows.round << 2 | fate;
         }
 
-        /** The least set of the fewest bars more after which no one slip harms, or NONE. */
+        /** The least set of the fewest bars more after which no one slip harms; NONE. */
         int leastBars(int state) {
-            int there = works.bars;
+            int bits = VALVES * VALVES;
             int least = isSafe(state, 0) ? 0 : NONE;
-            for (int bit = 0; bit < VALVES * VALVES && least == NONE; bit++) {
+            for (int bit = 0; bit < bits && least == NONE; bit++) {
                 least = canCome(bit) && isSafe(state, 1 << bit) ? 1 << bit : NONE;
             }
-            for (int high = 1; high < VALVES * VALVES && least == NONE; high++) {
-                least = canCome(high) ? leastWith(state, high) : NONE;
-            }
-            works.bars = there;
-            return least;
-        }
-
-        private int leastWith(int state, int high) {
-            for (int low = 0; low < high; low++) {
-                int pair = 1 << high | 1 << low;
-                if (canCome(low) && isSafe(state, pair)) {
-                    return pair;
+            for (int high = 0; high < bits && least == NONE; high++) {
+                for (int low = 0; low < high && least == NONE; low++) {
+                    int pair = 1 << high | 1 << low;
+                    least = canCome(high) && canCome(low) && isSafe(state, pair) ? pair : NONE;
                 }
             }
-            return NONE;
+            return least;
         }
 
         private boolean canCome(int bit) {
@@ -1244,7 +1240,7 @@ public final class HandBook {
         }
     }
 
-    /** The cheapest play that harms: a search by least key, of cost first and first slip then. */
+    /** The cheapest play that harms: a search by least keys, which tell the cost and then the first slip. */
     private static final class Cheapest {
         static final int COST = 128, TAKEN = -1;
 
@@ -1271,25 +1267,26 @@ public final class HandBook {
             rows.begin();
             size = 0;
             offer(state, 0);
-            for (int i = 0; i < PLACES && size > 0; i++) {
+            for (int i = 0; i < PLACES && size > 0 && cost == NONE; i++) {
                 int place = takeLeast();
                 int key = keys[place];
-                if (hands.works.isBad(Hands.stateOf(place))) {
+                if (hands.works.bad[place % STATES]) {
                     cost = key / COST;
                     firstSlip = key == 0 ? NONE : key % COST - 1;
-                    return;
-                }
-                offer(hands.goingOn(place), key);
-                for (int slip = 0; slip < SLIPS; slip++) {
-                    offer(hands.slipping(place, slip), keyBehind(key, place, slip));
+                } else {
+                    offerAll(place, key);
                 }
             }
         }
 
-        private int keyBehind(int key, int place, int slip) {
-            int paid = key + hands.prices[slip] * COST;
-            // Key 0 alone has no slip yet, as every slip costs something.
-            return key == 0 ? paid + SLIPS * Hands.stepOf(place) + slip + 1 : paid;
+        private void offerAll(int place, int key) {
+            offer(hands.goingOn(place), key);
+            for (int slip = 0; slip < SLIPS; slip++) {
+                int paid = key + hands.prices[slip] * COST;
+                // As every slip costs something, key 0 alone is without one.
+                int told = key == 0 ? SLIPS * (place / STATES) + slip + 1 : 0;
+                offer(hands.slipping(place, slip), paid + told);
+            }
         }
 
         private void offer(int place, int key) {
@@ -1327,7 +1324,7 @@ public final class HandBook {
 
         private void sink(int place) {
             int spot = 0;
-            int child = lesserChild(0);
+            int child = lesserChild(spot);
             while (child < size && keys[heap[child]] < keys[place]) {
                 seat(heap[child], spot);
                 spot = child;
@@ -1345,72 +1342,6 @@ public final class HandBook {
         private void seat(int place, int spot) {
             heap[spot] = place;
             spots[place] = spot;
-        }
-    }
-
-    /** Asks of steps by numbered bodies, and the trace that these leave. */
-    private static final class Asks {
-        static final int TRACE = 16, DEEPEST = 8;
-
-        final Steps steps;
-        final int[] trace = new int[TRACE];
-        int traced;
-
-        Asks(Steps steps) {
-            this.steps = steps;
-        }
-
-        int answer(int step, int what) {
-            traced = 0;
-            return begin(what == 0 ? sizeBody(step) : markBody(step), step, 0);
-        }
-
-        private int sizeBody(int step) {
-            switch (steps.kindOf(step)) {
-                case Steps.DEED: return 11;
-                case Steps.OPENS: return 12;
-                case Steps.WAITS: return 13;
-                case Steps.TURN: return 14;
-                case Steps.LAST: return 15;
-                default: return 10;
-            }
-        }
-
-        private int markBody(int step) {
-            switch (steps.kindOf(step)) {
-                case Steps.DEED:
-                case Steps.OPENS: return 21;
-                case Steps.WAITS: return 22;
-                case Steps.LAST: return 23;
-                default: return 20;
-            }
-        }
-
-        private int begin(int body, int step, int depth) {
-            if (depth >= DEEPEST) {
-                return 0;
-            }
-            leave(body);
-            int deeper = depth + 1;
-            switch (body) {
-                case 10: return steps.goingTo(step);
-                case 11: return begin(10, step, deeper) + begin(markBody(step), step, deeper);
-                case 12: return 2 * begin(11, step, deeper);
-                case 13: return begin(10, step, deeper) + 50;
-                case 14: return begin(10, step, deeper) - begin(markBody(step), step, deeper);
-                case 15: return 2 * begin(14, step, deeper);
-                case 21: return begin(20, step, deeper) + 100 * steps.targets[step];
-                case 22: return begin(20, step, deeper) + begin(sizeBody(step), step, deeper);
-                case 23: return begin(20, step, deeper) + steps.n;
-                default: return step;
-            }
-        }
-
-        private void leave(int body) {
-            if (traced < TRACE) {
-                trace[traced] = body;
-                traced++;
-            }
         }
     }
 }
