@@ -207,17 +207,10 @@ public final class HandBook {
     }
 
     public int through(int state, int n, int what) {
-        if (!isState(state) || !isBelow(n, MOST_SLIPS + 1) || !isBelow(what, 5)) {
+        if (!isState(state) || !isBelow(n, MOST_SLIPS + 1) || !isBelow(what, Through.WHATS)) {
             return BAD;
         }
-        plays.explore(state, n, false);
-        switch (what) {
-            case 0: return plays.places;
-            case 1: return asNumber(plays.harmed);
-            case 2: return plays.ends;
-            case 3: return plays.goodEnds;
-            default: return plays.hanging;
-        }
+        return plays.explore(state, n, what);
     }
 
     public int cheapest(int state, int what) {
@@ -970,7 +963,8 @@ public final class HandBook {
 
         /** Enters a place on a level; false: it had been there in this round. */
         boolean enter(int place, int level) {
-            int levels = marks[place] >> LEVELS == round ? marks[place] & 7 : 0;
+            int mark = marks[place];
+            int levels = mark >> LEVELS == round ? mark & (1 << LEVELS) - 1 : 0;
             int bit = 1 << level;
             marks[place] = round << LEVELS | levels | bit;
             return (levels & bit) == 0;
@@ -1100,17 +1094,19 @@ public final class HandBook {
 
     /** All plays with so many slips at most, one level of places for each number of slips. */
     private static final class Through {
+        static final int COUNT = 0, HARM = 1, ENDINGS = 2, GOOD_ENDINGS = 3, HANGING = 4, WHATS = 5;
         static final int UNKNOWN = 0, ON_WAY = 1, ENDS = 2, HANGS = 3;
 
         final Hands hands;
         final Works works;
         final Rows rows;
-        int places;
-        boolean harmed;
-        int ends;
-        int goodEnds;
-        int hanging;
+        // These two bear rounds as marks do. No other search writes them: what it left could pass for a round.
         private final int[] endRounds = new int[STATES];
+        private final int[] fates = new int[PLACES];
+        private boolean tillHarm;
+        private boolean harmed;
+        private int endings;
+        private int goodEndings;
 
         Through(Hands hands, Rows rows) {
             this.hands = hands;
@@ -1118,20 +1114,17 @@ public final class HandBook {
             this.rows = rows;
         }
 
-        void explore(int state, int slips, boolean tillHarm) {
-            rows.begin();
-            places = 0;
-            harmed = false;
-            ends = 0;
-            goodEnds = 0;
-            hanging = 0;
+        int explore(int state, int slips, int what) {
+            begin(what);
+            int places = 0;
+            int hanging = 0;
             int[] now = rows.first;
             int[] then = rows.second;
             int n = put(now, 0, state, 0);
-            for (int level = 0; level <= slips && !(harmed && tillHarm); level++) {
+            for (int level = 0; level <= slips; level++) {
                 n = goOnFromAll(now, n, level);
                 places += n;
-                for (int i = 0; i < n && !tillHarm; i++) {
+                for (int i = 0; i < n && what == HANGING; i++) {
                     hanging += asNumber(fateFrom(now[i]) == HANGS);
                 }
                 n = level < slips ? slipFromAll(now, n, then, level + 1) : 0;
@@ -1139,6 +1132,21 @@ public final class HandBook {
                 now = then;
                 then = left;
             }
+            switch (what) {
+                case COUNT: return places;
+                case HARM: return asNumber(harmed);
+                case ENDINGS: return endings;
+                case GOOD_ENDINGS: return goodEndings;
+                default: return hanging;
+            }
+        }
+
+        private void begin(int what) {
+            rows.begin();
+            tillHarm = what == HARM;
+            harmed = false;
+            endings = 0;
+            goodEndings = 0;
         }
 
         private int put(int[] row, int n, int place, int level) {
@@ -1152,7 +1160,7 @@ public final class HandBook {
 
         private int goOnFromAll(int[] row, int from, int level) {
             int n = from;
-            for (int i = 0; i < n && i < PLACES; i++) {
+            for (int i = 0; i < n && i < PLACES && !isOver(); i++) {
                 int next = hands.goingOn(row[i]);
                 if (next == NONE) {
                     endIn(row[i] % STATES);
@@ -1164,7 +1172,7 @@ public final class HandBook {
 
         private int slipFromAll(int[] row, int from, int[] to, int level) {
             int n = 0;
-            for (int i = 0; i < from; i++) {
+            for (int i = 0; i < from && !isOver(); i++) {
                 for (int slip = 0; slip < SLIPS; slip++) {
                     n = put(to, n, hands.slipping(row[i], slip), level);
                 }
@@ -1172,11 +1180,15 @@ public final class HandBook {
             return n;
         }
 
+        private boolean isOver() {
+            return harmed && tillHarm;
+        }
+
         private void endIn(int state) {
             if (endRounds[state] != rows.round) {
                 endRounds[state] = rows.round;
-                ends++;
-                goodEnds += asNumber(works.good[state]);
+                endings++;
+                goodEndings += asNumber(works.good[state]);
             }
         }
 
@@ -1203,12 +1215,12 @@ public final class HandBook {
         }
 
         private int fateAt(int place) {
-            int fate = rows.third[place];
+            int fate = fates[place];
             return fate >> 2 == rows.round ? fate & 3 : UNKNOWN;
         }
 
         private void setFate(int place, int fate) {
-            rows.third[place] = rows.round << 2 | fate;
+            fates[place] = rows.round << 2 | fate;
         }
 
         /** The least set of the fewest bars more after which no one slip harms; NONE. */
@@ -1234,9 +1246,9 @@ public final class HandBook {
         private boolean isSafe(int state, int more) {
             int there = works.bars;
             works.bars = there | more;
-            explore(state, 1, true);
+            boolean safe = explore(state, 1, HARM) == 0;
             works.bars = there;
-            return !harmed;
+            return safe;
         }
     }
 
