@@ -75,6 +75,13 @@ public final class AskedTest {
         asked(x, 4, 0, 51, 13, 10);
         asked(x, 4, 1, 4 + 51, 22, 20, 13, 10);
         asked(x, 5, 0, 2 * (1 - (5 + 13)), 15, 14, 10, 23, 20);
+        Check.read(x, "step go 1;step go 99;");
+        asked(x, 1, 0, 1 + 201, 11, 10, 21, 20);
+        HandBook first = Check.bookOf("step go 1;step go 0;step if open 0 0;step go 3;");
+        asked(first, 0, 0, 2, 14, 10, 20);
+        asked(first, 1, 0, 1 - 1, 14, 10, 20);
+        asked(first, 3, 0, 1 - 3, 14, 10, 20);
+        x.ask(5, 0);
         CHECK.is("ask(13, 0)", x.ask(13, 0), BAD);
         CHECK.is("ask(-1, 0)", x.ask(-1, 0), BAD);
         CHECK.is("ask(0, 2)", x.ask(0, 2), BAD);

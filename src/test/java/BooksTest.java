@@ -111,6 +111,10 @@ public final class BooksTest {
         fault("step end", 8, 1);
         fault("stepend;", 0, 1);
         fault("step endX;", 8, 1);
+        fault("step endz;", 5, 1);
+        fault("step enda;", 5, 1);
+        fault(";".repeat(400), 0, 1);
+        fault("flow" + " ".repeat(396), 400, 1);
         fault("Step end;", 0, 1);
         fault("step\tend;", 4, 1);
         fault("step\rend;", 4, 1);
@@ -163,6 +167,9 @@ public final class BooksTest {
         CHECK.is("still good", x.judge(0, 1), 1);
         CHECK.is("step 1 is not there", x.on(1, 0), HandBook.NONE);
         CHECK.is("a text without fault", Check.read(x, "step shut 1;"), 2);
+        CHECK.is("no good line came with it", x.count(4), 0);
+        CHECK.is("no bad line came with it", x.count(3), 0);
+        CHECK.is("no flow came with it", x.count(2), 1);
         CHECK.is("is read in the room of the one before", x.on(1, 3), 2 * 1024 + 17);
         CHECK.is("the latest fault stays", x.fault(), 2);
     }

@@ -94,6 +94,7 @@ public final class RunsTest {
         CHECK.is("turns for ever", turns.run(5, 0), NONE);
         CHECK.is("without harm", turns.run(5, 2), 0);
         CHECK.is("bad from the start", turns.run(2, 2), 1);
+        CHECK.is("and no longer", turns.run(5, 2), 0);
         HandBook away = Check.bookOf("step go 15;step end;");
         CHECK.is("ends at a step that is not there", away.run(7, 0), 7);
         CHECK.is("without a tick", away.run(7, 1), 0);
@@ -193,6 +194,8 @@ public final class RunsTest {
         back(x, 33, 3, 1);
         x.bar(1, 2, 1);
         back(x, 36, 3, 3);
+        HandBook last = Check.bookOf("good open 3;");
+        back(last, 0, 1, 4);
         HandBook none = Check.bookOf("good above 1 0;");
         back(none, 0, NONE, NONE);
         back(none, 128, 0, NONE);
@@ -234,6 +237,8 @@ public final class RunsTest {
         CHECK.is("height 1 shows, too", other.shows(0, 0, 0), 1);
         HandBook away = Check.bookOf("step end;step open 0;");
         CHECK.is("never comes to it", away.shows(0, 1, 0), NONE);
+        HandBook still = Check.bookOf("flow 0 0 up;" + "step wait shut 3;".repeat(14) + "step open 0;step go 0;");
+        CHECK.is("a tick comes, though late", still.shows(0, 14, 0), NONE);
     }
 
     private static void showsLate() {
