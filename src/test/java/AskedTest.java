@@ -9,6 +9,8 @@ public final class AskedTest {
         kinds();
         taken();
         asks();
+        lastOf16();
+        lentBodies();
         traces();
         counts();
         CHECK.end("AskedTest");
@@ -53,7 +55,10 @@ public final class AskedTest {
         for (int i = 0; i < trace.length; i++) {
             CHECK.is(call + ", trace(" + i + ")", x.trace(i), trace[i]);
         }
-        CHECK.is(call + ", behind the trace", x.trace(trace.length), NONE);
+        for (int i = trace.length; i <= 17; i++) {
+            CHECK.is(call + ", behind the trace, " + i, x.trace(i), NONE);
+        }
+        CHECK.is(call + ", ahead of the trace", x.trace(-1), NONE);
     }
 
     private static void asks() {
@@ -87,6 +92,36 @@ public final class AskedTest {
         CHECK.is("ask(0, 2)", x.ask(0, 2), BAD);
         CHECK.is("ask(0, -1)", x.ask(0, -1), BAD);
         CHECK.is("a refused ask leaves the trace", x.trace(0), 15);
+    }
+
+    /** Each kind as step 15, to which the 15 others go. */
+    private static void lastOf16() {
+        String others = "step go 15;".repeat(15);
+        asked(Check.bookOf(others + "step open 3;"), 15, 0, 2 * (15 + 15 + 300), 12, 11, 10, 21, 20);
+        asked(Check.bookOf(others + "step open 3;"), 15, 1, 315, 21, 20);
+        asked(Check.bookOf(others + "step shut 0;"), 15, 0, 15 + 15, 11, 10, 21, 20);
+        asked(Check.bookOf(others + "step shut 3;"), 15, 1, 315, 21, 20);
+        asked(Check.bookOf(others + "step wait open 0;"), 15, 0, 65, 13, 10);
+        asked(Check.bookOf(others + "step wait open 0;"), 15, 1, 15 + 65, 22, 20, 13, 10);
+        asked(Check.bookOf(others + "step go 15;"), 15, 0, 16 - 15, 14, 10, 20);
+        asked(Check.bookOf(others + "step if open 0 15;"), 15, 1, 15, 20);
+        asked(Check.bookOf(others + "step if open 0 0;"), 0, 0, 1, 14, 10, 20);
+        asked(Check.bookOf(others + "step end;"), 15, 0, 2 * (15 - (15 + 16)), 15, 14, 10, 23, 20);
+        asked(Check.bookOf(others + "step end;"), 15, 1, 15 + 16, 23, 20);
+    }
+
+    /** A step that goes to one not there counts for it as soon as it is; valves are no steps. */
+    private static void lentBodies() {
+        HandBook x = Check.bookOf("step open 1;step shut 2;step wait open 3;step go 4;");
+        asked(x, 1, 0, 0 + 1 + 200, 11, 10, 21, 20);
+        asked(x, 2, 0, 50, 13, 10);
+        asked(x, 3, 0, 0 - 3, 14, 10, 20);
+        CHECK.is("step 4 is not there", x.ask(4, 0), BAD);
+        Check.read(x, "step end;");
+        asked(x, 4, 0, 2 * (1 - (4 + 5)), 15, 14, 10, 23, 20);
+        Check.read(x, "step if below 1 7 4;step if above 0 4 0;");
+        asked(x, 4, 0, 2 * (2 - (4 + 7)), 15, 14, 10, 23, 20);
+        asked(x, 4, 1, 4 + 7, 23, 20);
     }
 
     private static void traces() {

@@ -5,7 +5,7 @@ import java.util.Random;
  * other run is of plays alone, with books in which slips and bars make a difference.
  */
 public final class RandomTest {
-    private static final int RUNS = 600, CALLS = 500;
+    private static final int RUNS = 750, CALLS = 390;
     private static final String[] WORDS = {"flow", "bad", "good", "step", "and", "up", "down", "open", "shut",
         "above", "below", "wait", "if", "go", "end", ";", "0", "1", "2", "3", "7", "8", "15", "16", "07", "123",
         "steps", "X", "\t", "\u00e9", "o", "-"};

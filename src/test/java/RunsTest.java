@@ -147,7 +147,7 @@ public final class RunsTest {
         fresh.like(0, 1);
         fresh.like(1, 0);
         int due = fresh.through(0, 2, 4);
-        for (int i = 0; i < 200; i++) {
+        for (int i = 0; i < 150; i++) {
             mixed.cheapest(0, 0);
             mixed.back(33, 0);
             CHECK.is("hanging, time and again", mixed.through(0, 2, 4), due);
