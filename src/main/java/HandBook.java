@@ -622,13 +622,11 @@ public final class HandBook {
 
         void split() {
             int n = 0;
-            int next = 0;
-            for (int i = 0; i < size; i = next) {
-                next = i + 1;
-                if (bytes[i] != 32 && bytes[i] != 10) {
-                    next = endOfToken(i);
+            for (int i = 0; i < size; i++) {
+                boolean blank = bytes[i] == 32 || bytes[i] == 10;
+                if (!blank && !goesOn(i)) {
                     starts[n] = i;
-                    codes[n] = codeOf(i, next);
+                    codes[n] = codeOf(i, endOfToken(i));
                     n++;
                 }
             }
@@ -637,13 +635,20 @@ public final class HandBook {
         }
 
         private int endOfToken(int start) {
-            boolean name = isLetter(bytes[start]);
-            boolean number = isFigure(bytes[start]);
             int i = start + 1;
-            while (i < size && (name && isLetter(bytes[i]) || number && isFigure(bytes[i]))) {
+            while (i < size && goesOn(i)) {
                 i++;
             }
             return i;
+        }
+
+        /** Whether a byte is of the same name, or number, as the one ahead of it. */
+        private boolean goesOn(int i) {
+            if (i == 0) {
+                return false;
+            }
+            boolean letters = isLetter(bytes[i - 1]) && isLetter(bytes[i]);
+            return letters || isFigure(bytes[i - 1]) && isFigure(bytes[i]);
         }
 
         private int codeOf(int start, int end) {
@@ -1337,7 +1342,7 @@ public final class HandBook {
         private void sink(int place) {
             int spot = 0;
             int child = lesserChild(spot);
-            while (child < size && keys[heap[child]] < keys[place]) {
+            for (int i = 0; i < size && child < size && keys[heap[child]] < keys[place]; i++) {
                 seat(heap[child], spot);
                 spot = child;
                 child = lesserChild(spot);

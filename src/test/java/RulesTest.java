@@ -14,9 +14,13 @@ import java.util.regex.Pattern;
 /** What of LANGUAGE.md can be seen by looking: the face, words that are left out, sizes. */
 public final class RulesTest {
     private static final Check CHECK = new Check();
-    private static final Set<String> FACE = Set.of("sheet", "set", "copy", "drop", "feed", "book", "fault", "like",
-        "price", "bar", "tick", "judge", "days", "on", "slip", "run", "through", "cheapest", "back", "shows", "fewest",
-        "kind", "as", "ask", "trace", "count", "status");
+    private static final List<String> FACE = List.of("sheet(int, int, int)", "set(int, int, int)",
+        "copy(int, int, int, int, int)", "drop(int)", "feed(long, int)", "book()", "fault()", "like(int, int)",
+        "price(int, int)", "bar(int, int, int)", "tick(int)", "judge(int, int)", "days(int, int, int)", "on(int, int)",
+        "slip(int, int, int)", "run(int, int)", "through(int, int, int)", "cheapest(int, int)", "back(int, int)",
+        "shows(int, int, int)", "fewest(int, int)", "kind(int)", "as(int, int)", "ask(int, int)", "trace(int)",
+        "count(int)", "status()");
+    private static final Set<String> NAMES = namesOf(FACE);
 
     public static void main(String[] args) throws Exception {
         face();
@@ -36,24 +40,30 @@ public final class RulesTest {
             }
             boolean open = Modifier.isPublic(m.getModifiers());
             CHECK.holds(m.getName() + " is public or private", open || Modifier.isPrivate(m.getModifiers()));
-            CHECK.holds(m.getName() + " is of the face only if public", open == FACE.contains(m.getName()));
+            CHECK.holds(m.getName() + " is of the face only if public", open == NAMES.contains(m.getName()));
             if (open) {
-                seen.add(m.getName());
+                seen.add(toldAs(m));
+                CHECK.holds(m.getName() + " answers an int", m.getReturnType() == int.class);
+                CHECK.holds(m.getName() + " is no static method", !Modifier.isStatic(m.getModifiers()));
             }
         }
-        CHECK.is("methods of the face", seen.size(), FACE.size());
+        CHECK.holds("the face is " + seen, seen.equals(new TreeSet<>(FACE)));
         for (Field f : HandBook.class.getDeclaredFields()) {
             boolean constant = Set.of("NONE", "BAD", "STATE", "FULL").contains(f.getName());
             CHECK.holds(f.getName(), constant == Modifier.isPublic(f.getModifiers())
                 && constant != Modifier.isPrivate(f.getModifiers()));
+            boolean fixed = Modifier.isStatic(f.getModifiers()) && Modifier.isFinal(f.getModifiers());
+            CHECK.holds(f.getName() + " is an int that stays", !constant || fixed && f.getType() == int.class);
         }
-        CHECK.is("constructors", HandBook.class.getConstructors().length, 1);
+        CHECK.is("constructors", HandBook.class.getDeclaredConstructors().length, 1);
+        CHECK.is("public ones", HandBook.class.getConstructors().length, 1);
+        CHECK.is("what it takes", HandBook.class.getConstructors()[0].getParameterCount(), 0);
         CHECK.holds("final", Modifier.isFinal(HandBook.class.getModifiers()));
         CHECK.holds("at most twelve classes", 1 + HandBook.class.getDeclaredClasses().length <= 12);
         for (Class<?> c : HandBook.class.getDeclaredClasses()) {
             CHECK.holds(c.getName() + " is static", Modifier.isStatic(c.getModifiers()));
             for (Method m : c.getDeclaredMethods()) {
-                CHECK.holds(m.getName() + " bears no name of the face", !FACE.contains(m.getName()));
+                CHECK.holds(m.getName() + " bears no name of the face", !NAMES.contains(m.getName()));
                 CHECK.holds(m.getName() + " takes at most seven", m.getParameterCount() <= 7);
             }
             int fields = 0;
@@ -64,6 +74,22 @@ public final class RulesTest {
             }
             CHECK.holds(c.getName() + " has at most twenty fields", fields <= 20);
         }
+    }
+
+    private static Set<String> namesOf(List<String> face) {
+        Set<String> names = new TreeSet<>();
+        for (String told : face) {
+            names.add(told.substring(0, told.indexOf('(')));
+        }
+        return names;
+    }
+
+    private static String toldAs(Method m) {
+        List<String> types = new ArrayList<>();
+        for (Class<?> type : m.getParameterTypes()) {
+            types.add(type.getName());
+        }
+        return m.getName() + "(" + String.join(", ", types) + ")";
     }
 
     private static void words(String code) {
